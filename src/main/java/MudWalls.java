@@ -1171,8 +1171,11 @@ public final class MudWalls {
         }
 
         private boolean reaches(int week, int weeks, int height) {
+            if (week < 0 || week + 1 >= bench.length) {
+                return false;
+            }
             Wall now = bench[week];
-            if (week >= weeks || week + 1 >= bench.length) {
+            if (week >= weeks || week >= row.length) {
                 return now.layers >= height;
             }
             if (now.layers + CAREFUL_LIFT * (weeks - week) < height) {
@@ -1281,12 +1284,15 @@ public final class MudWalls {
 
         /** While nothing falls bulges only grow, so that a row as bad as the best is given up at once. */
         private void seek(int done, int left) {
+            if (done < 0 || done + 1 >= bench.length) {
+                return;
+            }
             Wall now = bench[done];
             int bulges = now.bulges();
             if (best != NONE && bulges >= best) {
                 return;
             }
-            if (left == 0 || done >= WORKS || done + 1 >= bench.length) {
+            if (left == 0 || done >= row.length) {
                 best = bulges;
                 keptLength = done;
                 System.arraycopy(row, 0, kept, 0, done);

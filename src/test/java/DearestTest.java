@@ -1,8 +1,16 @@
-/** The dearest calls, many times on one object: they end, and they make no new objects worth counting. */
+import com.sun.management.ThreadMXBean;
+import java.lang.management.ManagementFactory;
+import java.lang.reflect.Array;
+import java.lang.reflect.Field;
+import java.lang.reflect.Modifier;
+import java.util.ArrayDeque;
+import java.util.IdentityHashMap;
+
+/** The dearest calls, many times on one object: they end, and they make no new objects. */
 public final class DearestTest {
     private final Check check = new Check();
 
-    public static void main(String[] args) {
+    public static void main(String[] args) throws IllegalAccessException {
         DearestTest test = new DearestTest();
         test.longForecasts();
         test.wideOrders();
@@ -10,6 +18,7 @@ public final class DearestTest {
         test.deepPlans();
         test.allHouses();
         test.roomOfManyObjects();
+        test.callsMakeNothing();
         test.check.end();
     }
 
@@ -84,18 +93,71 @@ public final class DearestTest {
         }
     }
 
-    /** Objects by the hundred must fit into the one room of a run, which is far smaller than this machine's. */
-    private void roomOfManyObjects() {
-        Runtime machine = Runtime.getRuntime();
-        MudWalls[] many = new MudWalls[512];
-        machine.gc();
-        long before = machine.totalMemory() - machine.freeMemory();
-        for (int i = 0; i < many.length; i++) {
-            many[i] = new MudWalls();
+    /** Objects and elements that one MudWalls holds: as many as a run has calls must fit into a run's one room. */
+    private void roomOfManyObjects() throws IllegalAccessException {
+        IdentityHashMap<Object, Boolean> seen = new IdentityHashMap<>();
+        ArrayDeque<Object> open = new ArrayDeque<>();
+        open.add(new MudWalls());
+        seen.put(open.peek(), true);
+        long elements = 0;
+        while (!open.isEmpty()) {
+            Object at = open.remove();
+            if (at.getClass().isArray()) {
+                elements += Array.getLength(at);
+                for (int i = 0; i < Array.getLength(at) && at instanceof Object[]; i++) {
+                    visit(Array.get(at, i), seen, open);
+                }
+                continue;
+            }
+            for (Field f : at.getClass().getDeclaredFields()) {
+                if (!Modifier.isStatic(f.getModifiers())) {
+                    elements++;
+                    f.setAccessible(true);
+                    visit(f.getType().isPrimitive() ? null : f.get(at), seen, open);
+                }
+            }
         }
-        machine.gc();
-        long bytes = machine.totalMemory() - machine.freeMemory() - before;
-        check.same("512 objects hold less than 7 million ints", 1, bytes < 4L * 7000000 ? 1 : 0);
-        check.same("the last of them is new", 0, many[511].count(0));
+        check.same("512 times " + seen.size() + " objects", 1, 512L * seen.size() < 600000 ? 1 : 0);
+        check.same("512 times " + elements + " elements", 1, 512L * elements < 7300000 ? 1 : 0);
+    }
+
+    private static void visit(Object next, IdentityHashMap<Object, Boolean> seen, ArrayDeque<Object> open) {
+        if (next != null && seen.put(next, true) == null) {
+            open.add(next);
+        }
+    }
+
+    private void callsMakeNothing() {
+        MudWalls x = Check.yard("earth 20 60 3;wall 6 hat;wall 5;week 3 30;week 0 50 frost;");
+        ThreadMXBean threads = (ThreadMXBean) ManagementFactory.getThreadMXBean();
+        x.house(5, 5, 5);
+        everyCall(x);
+        long before = threads.getCurrentThreadAllocatedBytes();
+        long before2 = threads.getCurrentThreadAllocatedBytes();
+        everyCall(x);
+        long made = threads.getCurrentThreadAllocatedBytes() - before2 - (before2 - before);
+        check.same("bytes that calls make", 0, made);
+    }
+
+    private static void everyCall(MudWalls x) {
+        x.lift(0, 2);
+        x.weeks(0, 3);
+        x.high(0);
+        x.when(0, 3);
+        x.plan(0, 8);
+        x.turned(0, 1, 6, 0);
+        x.line(0, 200, 0);
+        x.line(0, 200, 1);
+        x.order(0, 63);
+        x.first(77, 2);
+        x.guess(0, 0);
+        x.guess(1, 1);
+        x.stick(0, 0, 150, 50);
+        x.where();
+        x.brick(3, true);
+        x.mix(3);
+        x.image();
+        x.down(0);
+        x.restore();
     }
 }

@@ -211,6 +211,8 @@ public final class PromiseTest {
         due("3 plan gone", NO_SUCH, () -> x.planned(0));
         due("3 order gone", NO_SUCH, () -> x.ordered(0));
         due("3 image gone", 0, () -> x.restore() ? 1 : 0);
+        due("3 bricks anew", 1, () -> x.brick(0, true));
+        due("3 houses anew", 1, () -> x.house(1, 1, 1));
         Check.feed(x, "wall 2;wall 2;");
         due("3 only the first bytes", 0, () -> x.yard(7));
         due("3 one wall", 1, () -> x.count(0));
@@ -262,10 +264,21 @@ public final class PromiseTest {
         cells("7 frozen", x, 0, 0, new long[] {249, 1, 0, 5, 14, 2});
         x.hollow(0, 0, 0);
         cells("7 hollow", x, 0, 0, new long[] {249, 1, 1, 0, 0, 2});
+        cellBehind("7 just hard", "80", new long[] {120, 0, 0, 90, 12, 0});
+        cellBehind("7 just not", "79", new long[] {121, 0, 0, 88, 12, 1});
+        cellBehind("7 just no paste", "21", new long[] {179, 0, 0, 11, 13, 1});
+        cellBehind("7 just paste", "20", new long[] {180, 0, 0, 10, 13, 2});
         wrongWhats("7 what", 0, 5, k -> x.cell(0, 0, 0, k));
         wrongWhats("7 cell", 0, 0, k -> x.cell(0, 0, k, 0));
         wrongWhats("7 layer", 0, 0, k -> x.cell(0, k, 0, 0));
         wrongWhats("7 wall", 0, 0, k -> x.cell(k, 0, 0, 0));
+    }
+
+    private void cellBehind(String what, String air, long[] want) {
+        MudWalls x = Check.yard("earth 10 50 0;wall 1;week 0 " + air + ";");
+        x.lift(0, 1);
+        x.weeks(0, 1);
+        cells(what, x, 0, 0, want);
     }
 
     private void cells(String what, MudWalls x, int layer, int cell, long[] want) {
@@ -369,6 +382,11 @@ public final class PromiseTest {
         due("12 gone", 77, () -> x.count(7));
         due("12 in all", 745, () -> x.wall(0, 9));
         layers("12 sits", x, 0, new long[] {20, 26, 1, 1});
+        MudWalls v = Check.yard("wall 2 hat;week 99 0;");
+        v.lift(0, 1);
+        v.weeks(0, 1);
+        due("12 a fourth goes", 237, () -> v.cell(0, 0, 0, 0));
+        due("12 a fourth comes", 212, () -> v.cell(0, 0, 1, 0));
         MudWalls y = Check.yard("wall 1 ground 5 shoes 1 hat;week 7 0;");
         y.lift(0, 4);
         y.weeks(0, 1);
@@ -430,6 +448,13 @@ public final class PromiseTest {
             due("12 water " + earths[k], 142, () -> x.cell(0, 0, 0, 0));
             due("12 cracked " + earths[k], cracks[k], () -> x.cell(0, 0, 0, 1));
         }
+        MudWalls w = Check.yard("earth 99 0 0;wall 1;week 0 50;");
+        w.lift(0, 1);
+        w.weeks(0, 1);
+        due("12 just 150", 150, () -> w.cell(0, 0, 0, 0));
+        due("12 150 is not less", 0, () -> w.cell(0, 0, 0, 1));
+        w.weeks(0, 1);
+        due("12 it had 150", 1, () -> w.cell(0, 0, 0, 1));
         MudWalls x = Check.yard("wall 3;week 0 0 frost;");
         x.lift(0, 2);
         x.weeks(0, 1);
@@ -463,6 +488,11 @@ public final class PromiseTest {
         due("12 paste", 2, () -> x.wall(0, 11));
         due("12 fell", 1, () -> x.wall(0, 10));
         due("12 gone", 1800, () -> x.count(7));
+        MudWalls w = Check.yard("earth 0 50 2;wall 1;week 0 0;");
+        w.lift(0, 3);
+        w.weeks(0, 1);
+        due("12 just twice presses", 2, () -> w.layer(0, 0, 2));
+        due("12 just what it bears presses", 0, () -> w.layer(0, 1, 2));
         MudWalls y = Check.yard("earth 0 50 0;wall 1;week 0 99;week 0 0;week 0 0;week 0 0;week 0 0;");
         y.lift(0, 1);
         y.weeks(0, 1);
@@ -525,6 +555,9 @@ public final class PromiseTest {
         due("14 nothing went by", 0, () -> x.wall(0, 8));
         x.weeks(0, 2);
         due("14 now", 0, () -> x.when(0, 1));
+        // 200, 185, 173: two rounds of 26 weeks are in time, two of 27 are not.
+        due("14 the last week", 52, () -> lifted("earth 10 50 0;wall 1;" + "week 0 0;".repeat(25) + "week 0 15;").when(0, 1));
+        due("14 too late", -1, () -> lifted("earth 10 50 0;wall 1;" + "week 0 0;".repeat(26) + "week 0 15;").when(0, 1));
         MudWalls y = Check.yard("earth 10 50 0;wall 1;week 0 0;week 0 0;week 0 0;week 0 99;");
         y.lift(0, 3);
         due("14 it falls ahead of that", -1, () -> y.when(0, 1));
@@ -533,6 +566,12 @@ public final class PromiseTest {
         due("14 it stands", 2, () -> y.wall(0, 1));
         // Three weeks make 3 of bulge; by the week of air both are hard.
         due("14 nothing bulges by asking", 0, () -> y.layer(0, 0, 2));
+    }
+
+    private static MudWalls lifted(String text) {
+        MudWalls x = Check.yard(text);
+        x.lift(0, 1);
+        return x;
     }
 
     private void promises15And16() {
@@ -559,6 +598,22 @@ public final class PromiseTest {
         x.lift(0, 3);
         due("15 sits already, but is as high", 0, () -> x.plan(0, 6));
         due("15 sits behind the first lift", -1, () -> x.plan(0, 7));
+        // 193, 187, 181, 176: behind four weeks it bears 15, which is enough for 14; with less air 11.
+        MudWalls y = lifted("earth 10 50 0;wall 1;week 0 7;");
+        due("15 five weeks", 5, () -> y.plan(0, 2));
+        for (int k = 0; k < 5; k++) {
+            int week = k;
+            due("16 week " + k, k == 4 ? 1 : 0, () -> y.planned(week));
+        }
+        due("16 no sixth", NO_SUCH, () -> y.planned(5));
+        MudWalls z = Check.yard("earth 50 50 20;wall 1 shoes 9 hat;");
+        for (int k = 0; k < 22; k++) {
+            z.lift(0, 1);
+            z.weeks(0, 20);
+        }
+        due("15 24 in all", 1, () -> z.plan(0, 24));
+        due("16 two of three", 2, () -> z.planned(0));
+        due("15 six weeks are too many", -1, () -> lifted("earth 10 50 0;wall 1;week 0 6;").plan(0, 2));
     }
 
     private void promise17() {
@@ -606,6 +661,23 @@ public final class PromiseTest {
         due("18 now doesn't count", -1, () -> x.line(0, 1, 2));
         due("18 nothing went by", 0, () -> x.wall(0, 8));
         due("18 shoes are as they were", 3, () -> x.wall(0, 3));
+        due("18 three shoes", 3, () -> lifted("wall 1 ground 20;week 0 21;").line(0, 1, 0));
+        due("18 no shoes help", -1, () -> lifted("wall 1 ground 20;week 0 20;").line(0, 1, 0));
+        // Hard behind its coat; without it 136, 156, 169, 177, 182: nothing is the same ever after until then.
+        MudWalls z = lifted("wall 1 hat outer 0;week 99 35;");
+        z.weeks(0, 40);
+        due("18 never behind the coat", -1, () -> z.line(0, 520, 2));
+        z.work(0, 0);
+        due("18 the fifth week", 5, () -> z.line(0, 520, 2));
+        due("18 not in four", -1, () -> z.line(0, 4, 2));
+        z.weeks(0, 5);
+        due("18 so it comes", 182, () -> z.cell(0, 0, 0, 0));
+        int[] airs = {20, 21, 22, 23, 30, 41, 42};
+        int[] lets = {-1, 100, 100, 90, 40, 10, 0};
+        for (int k = 0; k < airs.length; k++) {
+            int air = airs[k];
+            due("18 lets by " + air, lets[k], () -> lifted("wall 1 hat outer 55;week 0 " + air + ";").line(0, 1, 1));
+        }
         MudWalls y = Check.yard("wall 1 hat outer 0;week 0 99;week 90 0;week 90 0;");
         y.lift(0, 1);
         // Without a coat 101, by two wet weeks 45 more each: 191 in the third; with 80 lets 36 each: 181; with 70 less.
@@ -731,6 +803,7 @@ public final class PromiseTest {
         due("24 13", -1, () -> x.house(1, 1, 1));
         due("24 status again", 7, () -> x.count(11));
         houses("25 twelve", x, 9999, 99307, 1020, 4095 - 1);
+        houses("25 no coin", x, 0, 0, 0, 0);
         due("25 below 0", ILLEGAL, () -> x.first(-1, 0));
         due("25 10000", ILLEGAL, () -> x.first(10000, 2));
         wrongWhats("25", 0, 2, k -> x.first(-1, k));
@@ -782,6 +855,10 @@ public final class PromiseTest {
         due("29 one alone", -1, () -> y.where());
         y.guess(1, 1);
         due("29 nothing in common", -1, () -> y.where());
+        y.lift(1, 2);
+        y.guess(1, 1);
+        due("29 one in common", 0, () -> y.where());
+        due("27 no water", 0, () -> y.stick(0, 0, 0, 0));
     }
 
     private void promises30And31() {
