@@ -6,6 +6,15 @@ final class Check {
         long answer();
     }
 
+    /** Makes an object, the same one each time it is asked. */
+    interface Scene {
+        MudWalls make();
+    }
+
+    interface CallOn {
+        long answer(MudWalls x);
+    }
+
     static final long NO_SUCH = Long.MIN_VALUE;
     static final long ILLEGAL = Long.MIN_VALUE + 1;
     static final long STRANGE = Long.MIN_VALUE + 2;
@@ -33,7 +42,7 @@ final class Check {
         });
     }
 
-    private static String name(long answer) {
+    static String name(long answer) {
         if (answer == NO_SUCH) {
             return "NoSuchElementException";
         }
@@ -58,6 +67,37 @@ final class Check {
             if (wrong <= 50) {
                 System.out.println(what + ": answered " + name(got) + ", due is " + name(want));
             }
+        }
+    }
+
+    /** The call answers so, and an object is the same with it as without it. */
+    void changesNothing(String what, Scene scene, long want, CallOn call) {
+        MudWalls x = scene.make();
+        same(what, want, of(() -> call.answer(x)));
+        sameRows(what, Look.through(scene.make(), true), Look.through(x, true));
+    }
+
+    /** As changesNothing, but the call is counted in one number of STATUS. */
+    void isCounted(String what, int status, Scene scene, long want, CallOn call) {
+        MudWalls without = scene.make();
+        MudWalls x = scene.make();
+        same(what, want, of(() -> call.answer(x)));
+        for (int k = 0; k < 4; k++) {
+            same(what + ": STATUS " + k, without.count(8 + k) + (k == status ? 1 : 0), x.count(8 + k));
+        }
+        sameRows(what, Look.through(without, false), Look.through(x, false));
+    }
+
+    void sameRows(String what, java.util.List<String> want, java.util.List<String> got) {
+        asked++;
+        if (!want.equals(got)) {
+            wrong++;
+            int at = 0;
+            while (at < want.size() && at < got.size() && want.get(at).equals(got.get(at))) {
+                at++;
+            }
+            System.out.println(what + ": changed " + (at < want.size() ? want.get(at) : "nothing more")
+                + " to " + (at < got.size() ? got.get(at) : "nothing more"));
         }
     }
 

@@ -1,14 +1,16 @@
 import java.util.Random;
 
-/** Long runs of calls, drawn from a fixed seed, must be answered as Plain answers them, with the whole state after each. */
+/** Runs of up to 512 calls, drawn from a fixed seed, must be answered as Plain answers them, with some of the state after each. */
 public final class CompareTest {
-    private static final int RUNS = 300;
-    private static final int CALLS = 80;
+    private static final int RUNS = 1000;
+    private static final int CALLS = 50;
+    private static final int MOST_CALLS = 512;
 
     private final Check check = new Check();
     private final Random draw;
     private MudWalls mud;
     private Plain plain;
+    private int asked;
 
     private CompareTest(long seed) {
         draw = new Random(seed);
@@ -31,21 +33,30 @@ public final class CompareTest {
         return below(12) == 0 ? (below(2) == 0 ? least - 1 : most + 1) : least + below(most - least + 1);
     }
 
+    /** What an object answers behind its 512th call is free: it is asked no more then. */
     private void ask(String what, Check.Call ofPlain, Check.Call ofMud) {
-        check.same(what, Check.of(ofPlain), Check.of(ofMud));
+        if (asked < MOST_CALLS) {
+            asked++;
+            check.same(what, Check.of(ofPlain), Check.of(ofMud));
+        }
+    }
+
+    private void askOf(String what, Runnable ofPlain, Runnable ofMud) {
+        ask(what, () -> Check.of(ofPlain), () -> Check.of(ofMud));
     }
 
     private void oneRun(int run) {
         mud = new MudWalls();
         plain = new Plain();
+        asked = 0;
         String text = goodText();
         tell(text);
         for (int call = 0; call < CALLS && check.wrong() == 0; call++) {
-            oneCall("run " + run + " call " + call + " of " + text);
-            if (call % 8 == 7) {
-                compareState("run " + run + " call " + call + " of " + text);
-            }
+            String where = "run " + run + " call " + call + " of " + text;
+            oneCall(where);
+            compareSome(where, 4);
         }
+        compareState("the end of run " + run + " of " + text);
     }
 
     private void tell(String text) {
@@ -57,7 +68,7 @@ public final class CompareTest {
         }
         ask("yard of " + text, () -> plain.yard(text.length()), () -> mud.yard(text.length()));
         ask("fault of " + text, () -> plain.fault(), () -> mud.fault());
-        compareState("behind " + text);
+        compareSome("behind " + text, 8);
     }
 
     private String goodText() {
@@ -126,7 +137,7 @@ public final class CompareTest {
             case 9: {
                 int l = about(0, 3);
                 int c = below(2);
-                check.same(where + " hollow", Check.of(() -> plain.hollow(w, l, c)), Check.of(() -> mud.hollow(w, l, c)));
+                askOf(where + " hollow", () -> plain.hollow(w, l, c), () -> mud.hollow(w, l, c));
                 break;
             }
             case 10: {
@@ -153,7 +164,7 @@ public final class CompareTest {
             }
             case 17: {
                 int n = about(0, 5);
-                check.same(where + " work", Check.of(() -> plain.work(w, n)), Check.of(() -> mud.work(w, n)));
+                askOf(where + " work", () -> plain.work(w, n), () -> mud.work(w, n));
                 break;
             }
             case 18: case 19: {
@@ -162,7 +173,7 @@ public final class CompareTest {
                 break;
             }
             case 20:
-                ask(where + " image", () -> { plain.image(); return 0; }, () -> { mud.image(); return 0; });
+                askOf(where + " image", plain::image, mud::image);
                 break;
             case 21:
                 ask(where + " restore", () -> plain.restore() ? 1 : 0, () -> mud.restore() ? 1 : 0);
@@ -194,7 +205,7 @@ public final class CompareTest {
                 break;
             }
             case 2:
-                check.same(where + " guess", Check.of(() -> plain.guess(g, w)), Check.of(() -> mud.guess(g, w)));
+                askOf(where + " guess", () -> plain.guess(g, w), () -> mud.guess(g, w));
                 break;
             default: {
                 int l = below(3) == 0 ? about(0, 23) : below(3);
@@ -206,53 +217,82 @@ public final class CompareTest {
         }
     }
 
-    private void compareState(String where) {
-        for (int i = -1; i <= 12; i++) {
-            int k = i;
-            ask(where + " count " + k, () -> plain.count(k), () -> mud.count(k));
-            ask(where + " planned " + k, () -> plain.planned(k), () -> mud.planned(k));
-            ask(where + " ordered " + k, () -> plain.ordered(k), () -> mud.ordered(k));
-            ask(where + " mix " + k, () -> plain.mix(k), () -> mud.mix(k));
-            ask(where + " credit " + k, () -> plain.credit(k), () -> mud.credit(k));
+    /** So many things that can be seen, drawn. */
+    private void compareSome(String where, int many) {
+        for (int i = 0; i < many; i++) {
+            int w = below(8) == 0 ? about(0, 3) : below(2);
+            boolean there = w >= 0 && w < plain.count(0);
+            int layer = about(0, Math.max(0, there ? plain.wall(w, 1) - 1 : 0));
+            int cell = about(0, there ? plain.wall(w, 0) - 1 : 0);
+            int k = about(0, 11);
+            switch (below(10)) {
+                case 0: case 1:
+                    ask(where + " count " + k, () -> plain.count(k), () -> mud.count(k));
+                    break;
+                case 2: case 3:
+                    ask(where + " wall " + w + " " + k, () -> plain.wall(w, k), () -> mud.wall(w, k));
+                    break;
+                case 4: case 5:
+                    compareLayer(where, w, layer, about(0, 3));
+                    break;
+                case 6: case 7:
+                    compareCell(where, w, layer, cell, about(0, 5));
+                    break;
+                case 8:
+                    ask(where + " high " + w, () -> plain.high(w), () -> mud.high(w));
+                    break;
+                default:
+                    compareKept(where, about(0, 5));
+            }
         }
-        int coin = about(0, below(2) == 0 ? 9999 : 500);
-        for (int what = -1; what <= 3; what++) {
-            int k = what;
-            ask(where + " first " + coin + " " + k, () -> plain.first(coin, k), () -> mud.first(coin, k));
-        }
-        ask(where + " where", () -> plain.where(), () -> mud.where());
-        ask(where + " fault", () -> plain.fault(), () -> mud.fault());
-        for (int w = -1; w <= 4; w++) {
-            compareWall(where, w);
-        }
-        int inCells = 0;
-        for (int w = 0; w < mud.count(0); w++) {
-            inCells += mud.wall(w, 9);
-        }
-        check.same(where + " water adds up", inCells, mud.count(6) - mud.count(7));
     }
 
-    private void compareWall(String where, int w) {
-        boolean there = w >= 0 && w < plain.count(0);
-        for (int what = there ? 0 : 11; what <= 12; what++) {
-            int k = what;
-            ask(where + " wall " + w + " " + k, () -> plain.wall(w, k), () -> mud.wall(w, k));
+    private void compareLayer(String where, int w, int layer, int k) {
+        ask(where + " layer " + w + " " + layer + " " + k, () -> plain.layer(w, layer, k), () -> mud.layer(w, layer, k));
+    }
+
+    private void compareCell(String where, int w, int layer, int cell, int k) {
+        ask(where + " cell " + w + " " + layer + " " + cell + " " + k, () -> plain.cell(w, layer, cell, k), () -> mud.cell(w, layer, cell, k));
+    }
+
+    private void compareKept(String where, int k) {
+        int coin = about(0, below(2) == 0 ? 9999 : 500);
+        ask(where + " planned " + k, () -> plain.planned(k), () -> mud.planned(k));
+        ask(where + " ordered " + k, () -> plain.ordered(k), () -> mud.ordered(k));
+        ask(where + " mix " + k, () -> plain.mix(k), () -> mud.mix(k));
+        ask(where + " credit " + k, () -> plain.credit(k), () -> mud.credit(k));
+        ask(where + " first " + coin + " " + k, () -> plain.first(coin, k), () -> mud.first(coin, k));
+        ask(where + " where", plain::where, mud::where);
+        ask(where + " fault", plain::fault, mud::fault);
+    }
+
+    /** As much of it as an object's calls allow: what adds up first, then wall by wall. */
+    private void compareState(String where) {
+        for (int i = 0; i <= 11; i++) {
+            int k = i;
+            ask(where + " count " + k, () -> plain.count(k), () -> mud.count(k));
         }
-        ask(where + " high " + w, () -> plain.high(w), () -> mud.high(w));
-        int layers = there ? plain.wall(w, 1) : 0;
-        int depth = there ? plain.wall(w, 0) : 0;
-        for (int l = 0; l <= layers; l++) {
-            int layer = l;
-            for (int what = 0; what < 4; what++) {
+        int walls = plain.count(0);
+        long inCells = 0;
+        for (int w = 0; w < walls; w++) {
+            inCells += plain.wall(w, 9);
+        }
+        check.same(where + " water adds up", inCells, plain.count(6) - plain.count(7));
+        for (int i = 0; i < walls; i++) {
+            int w = i;
+            for (int what = 0; what <= 11; what++) {
                 int k = what;
-                ask(where + " layer " + w + " " + layer + " " + k, () -> plain.layer(w, layer, k), () -> mud.layer(w, layer, k));
+                ask(where + " wall " + w + " " + k, () -> plain.wall(w, k), () -> mud.wall(w, k));
             }
-            for (int c = 0; c < depth; c++) {
-                int cell = c;
-                for (int what = 0; what < 6; what++) {
-                    int k = what;
-                    ask(where + " cell " + w + " " + layer + " " + cell + " " + k,
-                        () -> plain.cell(w, layer, cell, k), () -> mud.cell(w, layer, cell, k));
+        }
+        for (int k = 0; k <= 6; k++) {
+            compareKept(where, k);
+        }
+        for (int w = 0; w < walls; w++) {
+            for (int layer = 0; layer < plain.wall(w, 1); layer++) {
+                compareLayer(where, w, layer, 2);
+                for (int cell = 0; cell < plain.wall(w, 0); cell++) {
+                    compareCell(where, w, layer, cell, below(6));
                 }
             }
         }

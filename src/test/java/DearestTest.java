@@ -45,14 +45,14 @@ public final class DearestTest {
     private void longForecasts() {
         MudWalls x = tallYard();
         long sum = 0;
-        for (int i = 0; i < 60; i++) {
+        for (int i = 0; i < 40; i++) {
             for (int what = 0; what < 3; what++) {
                 sum += x.line(0, 520, what) + x.line(1, 520, what);
             }
             sum += x.when(0, 9) + x.when(1, 9);
         }
         check.same("forecasts change nothing", x.count(6) - x.count(7), x.wall(0, 9) + x.wall(1, 9));
-        check.same("forecasts repeat", 0, sum % 60);
+        check.same("forecasts repeat", 0, sum % 40);
     }
 
     private void wideOrders() {
