@@ -619,29 +619,22 @@ public final class MudWalls {
             for (int i = end; i < length && (text[i] == 32 || text[i] == 10); i++) {
                 start = i + 1;
             }
-            end = start;
-            if (start >= length) {
-                kind = END;
-            } else if (isBetween(text[start], 'a', 'z')) {
-                kind = WORD;
-                skipRow('a', 'z');
-            } else if (isBetween(text[start], '0', '9')) {
-                kind = NUMBER;
-                skipRow('0', '9');
-            } else {
-                kind = text[start] == ';' ? SEMICOLON : NO_TOKEN;
-                end = start + 1;
-            }
-        }
-
-        private void skipRow(char least, char most) {
-            for (int i = start; i < length && isBetween(text[i], least, most); i++) {
+            kind = start < length ? kindOf(text[start]) : END;
+            end = start < length ? start + 1 : start;
+            boolean longest = kind == WORD || kind == NUMBER;
+            for (int i = end; longest && i < length && kindOf(text[i]) == kind; i++) {
                 end = i + 1;
             }
         }
 
-        private static boolean isBetween(byte sign, char least, char most) {
-            return sign >= least && sign <= most;
+        private static int kindOf(byte sign) {
+            if (sign >= 'a' && sign <= 'z') {
+                return WORD;
+            }
+            if (sign >= '0' && sign <= '9') {
+                return NUMBER;
+            }
+            return sign == ';' ? SEMICOLON : NO_TOKEN;
         }
     }
 
